@@ -635,8 +635,9 @@ public final class SlidTokens {
 
         boolean differs(int colouring) {
             for (int a = 0; a < net.nodes; a++) {
-                for (int b = a + 1; b < net.nodes; b++) {
-                    if ((net.near[a] >> b & 1) == 1 && colourOf(colouring, a) == colourOf(colouring, b)) {
+                int joined = net.near[a];
+                for (int b = a + 1; b < net.nodes && joined >> b != 0; b++) {
+                    if ((joined >> b & 1) == 1 && colourOf(colouring, a) == colourOf(colouring, b)) {
                         return false;
                     }
                 }
