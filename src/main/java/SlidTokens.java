@@ -14,6 +14,7 @@ public final class SlidTokens {
     private static final int FREE = 0, COVER = 1, SEEN = 2;
     private static final int SLIDE = 0, BOTH = 2;
     private static final int SLIDE_WEIGHT = 1, JUMP_WEIGHT = 2, BOTH_WEIGHT = 3;
+    private static final int CHANGE_WEIGHT = 1;
 
     /** How a state stands in a search that has not come to it: not allowed, or allowed and new. */
     private static final int OUT = -2, NEW = -1;
@@ -402,6 +403,8 @@ public final class SlidTokens {
         final int[] line;
         /** Where the single steps from the state last gathered lead. */
         final int[] next;
+        /** What those steps weigh. */
+        final int[] cost;
         int size = 0;
         int tail = 0;
         int found = 0;
@@ -410,18 +413,26 @@ public final class SlidTokens {
             far = new int[states];
             line = new int[states];
             next = new int[steps];
+            cost = new int[steps];
         }
 
         /** Puts into next the allowed states that are one step away. */
         abstract void gather(int state);
 
+        private boolean isState(int state) {
+            return state >= 0 && state < size && state < far.length;
+        }
+
         /** Comes to all that can be reached, or stops at the goal; a start that is OUT leads nowhere. */
         final void spread(int from, int goal) {
+            if (!isState(from)) {
+                return;
+            }
             int head = tail;
             boolean leads = far[from] != OUT;
             enter(from, 0);
             for (; leads && head < tail && head < line.length; head++) {
-                if (goal != NO_GOAL && far[goal] >= 0) {
+                if (isState(goal) && far[goal] >= 0) {
                     return;
                 }
                 int state = line[head];
@@ -442,9 +453,11 @@ public final class SlidTokens {
             }
         }
 
-        final void note(int state) {
-            if (found < next.length) {
+        /** Only allowed states are taken, so that whatever stands in next may be used as an index. */
+        final void offer(int state, int weight) {
+            if (isState(state) && far[state] != OUT && found < next.length) {
                 next[found] = state;
+                cost[found] = weight;
                 found++;
             }
         }
@@ -454,7 +467,7 @@ public final class SlidTokens {
             if (from == to) {
                 return 0;
             }
-            if (far[from] == OUT || far[to] == OUT) {
+            if (!isState(from) || !isState(to) || far[from] == OUT || far[to] == OUT) {
                 return NONE;
             }
             spread(to, from);
@@ -475,14 +488,11 @@ public final class SlidTokens {
 
     /** The search through lawful sets of nodes. */
     private static final class Marks extends Search {
-        private static final int STEPS_LIMIT = NODES_LIMIT * NODES_LIMIT;
         private final Net net;
-        /** The weights of the moves to the sets in next. */
-        private final int[] cost = new int[STEPS_LIMIT];
         private int moves = SLIDE;
 
         Marks(Net net) {
-            super(1 << NODES_LIMIT, STEPS_LIMIT);
+            super(1 << NODES_LIMIT, NODES_LIMIT * NODES_LIMIT);
             this.net = net;
         }
 
@@ -519,13 +529,6 @@ public final class SlidTokens {
                 if ((open >> in & 1) == 1) {
                     offer(rest | 1 << in, (joined >> in & 1) == 1 ? SLIDE_WEIGHT : JUMP_WEIGHT);
                 }
-            }
-        }
-
-        private void offer(int set, int weight) {
-            if (far[set] != OUT && found < cost.length) {
-                cost[found] = weight;
-                note(set);
             }
         }
 
@@ -655,8 +658,8 @@ public final class SlidTokens {
                 int without = colouring & ~(3 << 2 * node);
                 for (int colour = 0; colour < colours; colour++) {
                     int changed = without | colour << 2 * node;
-                    if (changed != colouring && far[changed] != OUT) {
-                        note(changed);
+                    if (changed != colouring) {
+                        offer(changed, CHANGE_WEIGHT);
                     }
                 }
             }
