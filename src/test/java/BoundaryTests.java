@@ -442,6 +442,11 @@ public final class BoundaryTests {
         due("four slides", x.walk(FREE, SLIDE, 12, 48, FEWEST), 4);
         due("the NEXT is of the fewest", x.walk(FREE, BOTH, 12, 48, NEXT), 4);
         due("to itself", x.walk(FREE, BOTH, 12, 12, LEAST_WEIGHT), 0);
+        due("one slide", x.walk(FREE, BOTH, 12, 6, LEAST_WEIGHT), 1);
+        due("one jump, two slides weigh as much", shaped(3, ROW).walk(FREE, JUMP, 1, 4, LEAST_WEIGHT), 2);
+        due("one jump alone", open(2).walk(FREE, BOTH, 1, 2, LEAST_WEIGHT), 2);
+        due("one put on", open(1).walk(FREE, BOTH, 0, 1, LEAST_WEIGHT), 3);
+        due("one taken off", open(1).walk(FREE, BOTH, 1, 0, LEAST_WEIGHT), 3);
         due("there is none", x.walk(FREE, JUMP, 12, 1, LEAST_WEIGHT), NONE);
         due("the heaviest: nine put on", open(9).walk(FREE, BOTH, 0, 511, LEAST_WEIGHT), 27);
         due("the heaviest: nine taken off", open(9).walk(FREE, BOTH, 511, 0, LEAST_WEIGHT), 27);
