@@ -427,6 +427,9 @@ public final class BoundaryTests {
         due("of nine that may be taken off", x.walk(FREE, BOTH, 511, 0, NEXT), 255);
         due("of nine that may be put on", x.walk(FREE, BOTH, 0, 511, NEXT), 1);
         due("not one that is as far", x.walk(FREE, JUMP, 6, 3, NEXT), 3);
+        due("the empty set is as near, but two off", shaped(3, ROW).walk(FREE, BOTH, 5, 2, NEXT), 1);
+        due("{0} is as near, but two off", shaped(3, RING).walk(SEEN, BOTH, 7, 2, NEXT), 3);
+        due("{0} is no MOVE from {1, 3}", shaped(4, ROW).walk(FREE, BOTH, 10, 5, NEXT), 9);
     }
 
     private static void leastWeights() {
